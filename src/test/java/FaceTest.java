@@ -1,0 +1,64 @@
+import java.lang.reflect.Constructor;
+import java.lang.reflect.Field;
+import java.lang.reflect.Member;
+import java.lang.reflect.Method;
+import java.lang.reflect.Modifier;
+import java.util.Set;
+import java.util.TreeSet;
+
+/** The public face: the document's constants, constructor and methods, and no other. */
+public final class FaceTest {
+    private static final Set<String> FACE = Set.of(
+        "int sign(int)", "int empty()", "int told(int)", "int at(int)", "int map(int)",
+        "int place(int)", "int symbol(int)", "int taken(int,int)", "int length(int,int,int)",
+        "int code(int,int)", "int cost()", "int write()", "int more(boolean)", "int cut(int)",
+        "int flip(int)", "int bit(int)", "int read()", "int fault()");
+
+    public static void main(String[] args) {
+        Check check = new Check();
+        Class<?> face = MoveFronts.class;
+        check.due("public", Modifier.isPublic(face.getModifiers()));
+        check.due("final", Modifier.isFinal(face.getModifiers()));
+        check.due("methods as in the document: " + methodsOf(face), methodsOf(face).equals(FACE));
+        checkFields(check, face);
+        check.due("constructors", face.getDeclaredConstructors().length, 1);
+        for (Constructor<?> made : face.getDeclaredConstructors()) {
+            check.due("public constructor", Modifier.isPublic(made.getModifiers()));
+            check.due("parameters of the constructor", made.getParameterCount(), 0);
+        }
+        check.due("NONE", MoveFronts.NONE, -1);
+        check.due("OUTSIDE", MoveFronts.OUTSIDE, -2);
+        check.due("STATE", MoveFronts.STATE, -3);
+        check.due("ROOM", MoveFronts.ROOM, -4);
+        check.end();
+    }
+
+    private static boolean isOpen(Member member) {
+        return !Modifier.isPrivate(member.getModifiers()) && !member.isSynthetic();
+    }
+
+    private static Set<String> methodsOf(Class<?> face) {
+        Set<String> found = new TreeSet<>();
+        for (Method method : face.getDeclaredMethods()) {
+            if (isOpen(method)) {
+                StringBuilder text = new StringBuilder(method.getReturnType().getName());
+                text.append(' ').append(method.getName()).append('(');
+                for (int i = 0; i < method.getParameterCount(); i++) {
+                    text.append(i == 0 ? "" : ",").append(method.getParameterTypes()[i].getName());
+                }
+                found.add(text.append(')').toString());
+            }
+        }
+        return found;
+    }
+
+    private static void checkFields(Check check, Class<?> face) {
+        Set<String> open = new TreeSet<>();
+        for (Field field : face.getDeclaredFields()) {
+            if (isOpen(field)) {
+                open.add(field.getName());
+            }
+        }
+        check.due("constants: " + open, open.equals(Set.of("NONE", "OUTSIDE", "STATE", "ROOM")));
+    }
+}
