@@ -1014,11 +1014,11 @@ public final class MoveFronts {
             choices.clear();
             order.restart(tables);
             for (int group = 0; group < groups; group++) {
-                int told = nextChoice();
-                if (told == NONE) {
+                int chosen = nextChoice();
+                if (chosen == NONE) {
                     return false;
                 }
-                choices.add(order.bringUp(told));
+                choices.add(order.bringUp(chosen));
             }
             return true;
         }

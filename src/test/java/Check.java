@@ -68,7 +68,8 @@ final class Check {
 
     static String bitsOf(MoveFronts x) {
         StringBuilder text = new StringBuilder();
-        for (int i = 0; i < x.told(5); i++) {
+        int many = x.told(5);
+        for (int i = 0; i < many; i++) {
             text.append(x.bit(i));
         }
         return text.toString();

@@ -61,7 +61,9 @@ public final class ReadTest {
     private static MoveFronts fine(String bits, int... signs) {
         MoveFronts x = Check.withSigns(99, 98, 99, 97);
         Check.addBits(x, bits);
+        CHECK.due("what the old BLOCK is told by", x.told(1) == 3 && x.cost() > 0);
         CHECK.due("read " + bits, x.read(), signs.length);
+        CHECK.due("n behind " + bits, x.told(1), java.util.Arrays.stream(signs).distinct().count());
         CHECK.due("fault " + bits, x.fault(), MoveFronts.NONE);
         CHECK.due("SIGNS " + bits, x.told(0), signs.length);
         for (int i = 0; i < signs.length; i++) {
