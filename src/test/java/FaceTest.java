@@ -17,20 +17,40 @@ public final class FaceTest {
     public static void main(String[] args) {
         Check check = new Check();
         Class<?> face = MoveFronts.class;
+        check.about("The public face: the class");
         check.due("public", Modifier.isPublic(face.getModifiers()));
         check.due("final", Modifier.isFinal(face.getModifiers()));
+        check.about("The public face: the methods, and no other");
         check.due("methods as in the document: " + methodsOf(face), methodsOf(face).equals(FACE));
+        checkPrivateNames(check, face);
+        check.about("The public face: the constants, and no other field");
         checkFields(check, face);
+        check.about("The public face: the constructor, and no other");
         check.due("constructors", face.getDeclaredConstructors().length, 1);
         for (Constructor<?> made : face.getDeclaredConstructors()) {
             check.due("public constructor", Modifier.isPublic(made.getModifiers()));
             check.due("parameters of the constructor", made.getParameterCount(), 0);
         }
+        check.about("The public face: what the constants are");
         check.due("NONE", MoveFronts.NONE, -1);
         check.due("OUTSIDE", MoveFronts.OUTSIDE, -2);
         check.due("STATE", MoveFronts.STATE, -3);
         check.due("ROOM", MoveFronts.ROOM, -4);
+        check.about("The public face: no class inside it is part of it");
+        for (Class<?> inside : face.getDeclaredClasses()) {
+            check.due("static: " + inside, Modifier.isStatic(inside.getModifiers()));
+            check.due("not public: " + inside, !Modifier.isPublic(inside.getModifiers()));
+        }
         check.end();
+    }
+
+    private static void checkPrivateNames(Check check, Class<?> face) {
+        for (Method method : face.getDeclaredMethods()) {
+            if (!isOpen(method)) {
+                String name = method.getName();
+                check.due("no method of the face: " + name, FACE.stream().noneMatch(of -> of.startsWith("int " + name + "(")));
+            }
+        }
     }
 
     private static boolean isOpen(Member member) {
@@ -57,6 +77,9 @@ public final class FaceTest {
         for (Field field : face.getDeclaredFields()) {
             if (isOpen(field)) {
                 open.add(field.getName());
+                int is = field.getModifiers();
+                check.due("static and final: " + field, Modifier.isStatic(is) && Modifier.isFinal(is));
+                check.due("an int: " + field, field.getType() == int.class);
             }
         }
         check.due("constants: " + open, open.equals(Set.of("NONE", "OUTSIDE", "STATE", "ROOM")));

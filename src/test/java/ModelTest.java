@@ -10,7 +10,7 @@ public final class ModelTest {
     private final int run;
     private final int style;
     private final int spread;
-    private MoveFronts x = new MoveFronts();
+    private Run x = new Run();
     private Model model = new Model();
     private int calls = 0;
 
@@ -27,6 +27,7 @@ public final class ModelTest {
 
     public static void main(String[] args) {
         Check check = new Check();
+        check.about("Promises 1 to 19, as the Model answers");
         for (int run = 0; run < RUNS && check.isClean(); run++) {
             new ModelTest(check, run).go();
         }
