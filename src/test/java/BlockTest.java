@@ -18,6 +18,7 @@ public final class BlockTest {
         toldOfNone();
         toldOfAll();
         toldOfOneKind();
+        toldAlone();
         at();
         atOfNoneAndFull();
         map();
@@ -185,6 +186,14 @@ public final class BlockTest {
         told(Run.repeating(4, 300), 300, 1, 9, 1, 1, 0);
         told(Run.repeating(4, 2), 2, 1, 2, 1, 1, 0);
         told(Run.repeating(4, 3), 3, 1, 3, 1, 1, 0);
+    }
+
+    private static void toldAlone() {
+        CHECK.about("Promise 4: each is told at once, whatever else was asked ahead");
+        int[] dues = {300, 256, 301, 31, 3, 0};
+        for (int what = 0; what < dues.length; what++) {
+            CHECK.due("told " + what, Run.falling(300).told(what), dues[what]);
+        }
     }
 
     private static void at() {

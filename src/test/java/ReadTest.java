@@ -17,6 +17,7 @@ public final class ReadTest {
         blockStays();
         tapeStays();
         readAgain();
+        readOthers();
         noRead();
         noFault();
         faultAtNoBit();
@@ -138,6 +139,24 @@ public final class ReadTest {
             x.flip(0);
             CHECK.due("read without a SIGN", x.read(), -12);
             x.flip(0);
+        }
+    }
+
+    private static void readOthers() {
+        CHECK.about("Promise 18: nothing of what was read ahead is left: SIGNS, TABLES, choices");
+        // TABLE 0 has CODES 0, 10, 11, TABLE 1 has 10, 11, 0, and the GROUP takes either
+        String tables = SHORT + Tapes.table(2, 2, 1);
+        Run x = Run.withBits(TWO + PLAIN + EVEN + "10 10 01 11");
+        CHECK.due("two SIGNS", x.read(), 4);
+        String[] tapes = {ONE + "10 00001 10" + tables + "10 0", ONE + "10 00001 0" + tables + "10 11",
+            ONE + "10 00001 10" + tables + "11 0", FINE};
+        int[] dues = {1, 2, 2, 1};
+        for (int k = 0; k < tapes.length; k++) {
+            x.cut(0);
+            x.addBits(tapes[k]);
+            CHECK.due("read " + k, x.read(), dues[k]);
+            CHECK.due("n", x.told(1), 1);
+            CHECK.due("the SIGN", x.at(0), 0);
         }
     }
 

@@ -1,4 +1,3 @@
-import java.util.ArrayList;
 import java.util.List;
 import java.util.function.Supplier;
 import java.util.function.ToIntFunction;
@@ -11,9 +10,6 @@ public final class RefusedTest {
     private static final int NONE = MoveFronts.NONE, OUTSIDE = MoveFronts.OUTSIDE;
     private static final int STATE = MoveFronts.STATE, ROOM = MoveFronts.ROOM;
     private static final Check CHECK = new Check();
-
-    private record Question(String name, ToIntFunction<Run> ask) {
-    }
 
     public static void main(String[] args) {
         outsideAheadOfRoom();
@@ -67,50 +63,6 @@ public final class RefusedTest {
         return x;
     }
 
-    private static List<Question> questionsFor(Run x, boolean withFault) {
-        List<Question> all = new ArrayList<>();
-        int[] sizes = new int[6];
-        for (int what = 0; what < 6; what++) {
-            int w = what;
-            sizes[w] = x.told(w);
-            all.add(new Question("told " + w, r -> r.told(w)));
-        }
-        all.add(new Question("cost", Run::cost));
-        if (withFault) {
-            all.add(new Question("fault", Run::fault));
-        }
-        addRow(all, "at ", sizes[0], (r, i) -> r.at(i));
-        addRow(all, "map ", sizes[1], (r, i) -> r.map(i));
-        addRow(all, "place ", sizes[0], (r, i) -> r.place(i));
-        addRow(all, "symbol ", sizes[2], (r, i) -> r.symbol(i));
-        addRow(all, "bit ", sizes[5], (r, i) -> r.bit(i));
-        for (int round = 1; round <= 4; round++) {
-            int n = round;
-            addRow(all, "taken " + n + " ", sizes[3], (r, i) -> r.taken(n, i));
-        }
-        for (int table = 0; table <= sizes[4]; table++) {
-            int t = table;
-            addRow(all, "code " + t + " ", sizes[1] + 2, (r, i) -> r.code(t, i));
-            for (int round = 0; round <= 4; round += 2) {
-                int n = round;
-                addRow(all, "length " + n + " " + t + " ", sizes[1] + 2, (r, i) -> r.length(n, t, i));
-            }
-        }
-        return all;
-    }
-
-    private interface Asked {
-        int of(Run x, int i);
-    }
-
-    /** From 0 to one behind the last. */
-    private static void addRow(List<Question> all, String name, int size, Asked asked) {
-        for (int i = 0; i <= size; i++) {
-            int k = i;
-            all.add(new Question(name + k, r -> asked.of(r, k)));
-        }
-    }
-
     /** Calls that change things: they go on as if the refused call had not been. */
     private static List<Question> changes() {
         return List.of(new Question("sign", r -> r.sign(77)), new Question("more", r -> r.more(true)),
@@ -123,7 +75,7 @@ public final class RefusedTest {
     }
 
     private static void unchanged(String name, Supplier<Run> maker, int due, ToIntFunction<Run> call) {
-        compare(name, maker, due, call, questionsFor(maker.get(), true));
+        compare(name, maker, due, call, Question.all(maker.get(), true));
         compare(name, maker, due, call, changes());
     }
 
@@ -295,7 +247,7 @@ public final class RefusedTest {
         int[] dues = {-11, -11, -12, -11, -11};
         List<Supplier<Run>> makers = states();
         for (int k = 0; k < dues.length; k++) {
-            compare("read", makers.get(k), dues[k], Run::read, questionsFor(makers.get(k).get(), false));
+            compare("read", makers.get(k), dues[k], Run::read, Question.all(makers.get(k).get(), false));
             compare("read", makers.get(k), dues[k], Run::read, changes());
         }
         Supplier<Run> left = () -> {
@@ -306,6 +258,6 @@ public final class RefusedTest {
             x.sign(4);
             return x;
         };
-        compare("read with a bit too many", left, -20, Run::read, questionsFor(left.get(), false));
+        compare("read with a bit too many", left, -20, Run::read, Question.all(left.get(), false));
     }
 }

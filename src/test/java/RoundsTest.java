@@ -244,5 +244,8 @@ public final class RoundsTest {
         CHECK.due("cost", x.cost(), 103);
         CHECK.due("cost again", x.cost(), 103);
         CHECK.due("THE TAPE", x.bits(), "1011");
+        x.write();
+        CHECK.due("cost of what was WRITTEN", x.cost(), 103);
+        CHECK.due("bits", x.told(5), 103);
     }
 }

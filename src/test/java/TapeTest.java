@@ -84,6 +84,14 @@ public final class TapeTest {
         CHECK.due("1501", x.write(), ROOM);
         CHECK.due("the bits", x.bits(), "1011");
         CHECK.due("THE BLOCK", x.told(0), 175);
+        // what was WRITTEN last stays, too
+        Run y = Run.withSigns(255);
+        y.write();
+        for (int i = 0; i < 299; i++) {
+            y.sign(i * i % 241);
+        }
+        CHECK.due("grown", y.write(), ROOM);
+        CHECK.due("bits", y.bits(), "0000000000000001 0000000000000001 01 00001 0 00010 0 0 110 10 0");
         Run most = Run.farBeyondFullTape();
         most.addBits("1011");
         CHECK.due("far more", most.write(), ROOM);

@@ -29,6 +29,7 @@ public final class TermsTest {
         shareOfNothing();
         oneTableHasAll();
         bestTable();
+        allSymbolsOfAGroup();
         equalTables();
         weightsOfOne();
         equalWeights();
@@ -295,14 +296,20 @@ public final class TermsTest {
         Run x = Run.withPlaces(3, 10, 1, 9, 2);
         lengths(x, 0, 0, 1, 1, 1, 9, 9);
         lengths(x, 0, 1, 9, 9, 9, 1, 1);
-        // PLACES 0, 1, 0, 1, .. 0: KIND 0 comes 10 times of 20, so KIND 1, which never does, is TABLE 1's
-        Run y = new Run();
-        for (int i = 0; i < 19; i++) {
-            y.sign((i + 1) / 2 % 2);
-        }
+        // KIND 0 comes 10 times of 20, so KIND 1, which never does, is TABLE 1's
+        Run y = zerosAndTwos();
         CHECK.due("SYMBOLS", y.told(2), 20);
         lengths(y, 0, 0, 1, 9, 9, 9);
         lengths(y, 0, 1, 9, 1, 1, 1);
+    }
+
+    /** SYMBOLS 0, 2, 0, 2, .. 0, END 3: ten 0s, nine 2s. */
+    private static Run zerosAndTwos() {
+        Run x = new Run();
+        for (int i = 0; i < 19; i++) {
+            x.sign((i + 1) / 2 % 2);
+        }
+        return x;
     }
 
     private static void shareIsMissed() {
@@ -375,6 +382,22 @@ public final class TermsTest {
             lengths(x, round, 1, 4, 4, 4, 1, 2, 4);
             lengths(x, round, 2, 4, 4, 3, 3, 1, 3);
         }
+    }
+
+    private static void allSymbolsOfAGroup() {
+        CHECK.about("Terms: ROUNDS 1 to 4, all SYMBOLS of a GROUP count, 0s and 1s and the END too");
+        // five 0s, TABLE 0's own, and five 2s, TABLE 1's: 50 in both
+        CHECK.due("0s and 2s", zerosAndTwos().taken(1, 0), 0);
+        // SYMBOLS 0, 0, then 2, 1, 2, 1, ..: KINDS 0 and 1 are TABLE 0's own, 2 and the END TABLE 1's
+        Run x = new Run();
+        for (int i = 0; i < 54; i++) {
+            x.sign(i / 3 % 2);
+        }
+        for (int i = 2; i < 36; i++) {
+            CHECK.due("symbol " + i, x.symbol(i), i % 2 == 0 ? 2 : 1);
+        }
+        CHECK.due("1s and 2s", x.taken(1, 1), 0);
+        CHECK.due("the END alone", Run.twoTables().taken(1, 2), 1);
     }
 
     private static void equalTables() {
