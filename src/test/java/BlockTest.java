@@ -1,3 +1,5 @@
+import java.util.function.IntUnaryOperator;
+
 /** Promises 1 to 8: a new object, sign, empty, told, at, map, place, symbol. */
 public final class BlockTest {
     private static final int NONE = MoveFronts.NONE, OUTSIDE = MoveFronts.OUTSIDE, ROOM = MoveFronts.ROOM;
@@ -196,16 +198,21 @@ public final class BlockTest {
         }
     }
 
+    /** Such answers from 0 on, and NONE behind them and below. */
+    private static void row(String name, IntUnaryOperator ask, int... dues) {
+        for (int i = 0; i < dues.length; i++) {
+            CHECK.due(name + " " + i, ask.applyAsInt(i), dues[i]);
+        }
+        CHECK.due(name + " one behind the last", ask.applyAsInt(dues.length), NONE);
+        CHECK.due(name + " two behind the last", ask.applyAsInt(dues.length + 1), NONE);
+        for (int i : FAR) {
+            CHECK.due(name + " " + i, ask.applyAsInt(i), NONE);
+        }
+    }
+
     private static void at() {
         CHECK.about("Promise 5: SIGN i of THE BLOCK; NONE below 0 and from its end on");
-        Run x = Run.withSigns(9, 0, 255);
-        int[] dues = {9, 0, 255, NONE, NONE};
-        for (int i = 0; i < dues.length; i++) {
-            CHECK.due("at " + i, x.at(i), dues[i]);
-        }
-        for (int i : FAR) {
-            CHECK.due("at " + i, x.at(i), NONE);
-        }
+        row("at", Run.withSigns(9, 0, 255)::at, 9, 0, 255);
     }
 
     private static void atOfNoneAndFull() {
@@ -223,16 +230,9 @@ public final class BlockTest {
     private static void map() {
         CHECK.about("Promise 6: the i-th SIGN of THE MAP; NONE below 0 and from n on");
         Run x = Run.withSigns(200, 0, 255, 0, 200, 200, 17);
-        int[] dues = {0, 17, 200, 255, NONE, NONE, NONE};
-        for (int i = 0; i < dues.length; i++) {
-            CHECK.due("map " + i, x.map(i), dues[i]);
-        }
-        for (int i : FAR) {
-            CHECK.due("map " + i, x.map(i), NONE);
-        }
+        row("map", x::map, 0, 17, 200, 255);
         x.sign(1);
-        CHECK.due("map 1 anew", x.map(1), 1);
-        CHECK.due("map 4 anew", x.map(4), 255);
+        row("map anew", x::map, 0, 1, 17, 200, 255);
     }
 
     private static void mapOfNoneAndFull() {
@@ -249,18 +249,9 @@ public final class BlockTest {
     private static void place() {
         CHECK.about("Promise 7: the PLACE of SIGN i of THE BLOCK; NONE below 0 and from its end on");
         Run x = Run.withSigns(200, 0, 255, 0, 200, 200, 17);
-        int[] dues = {2, 1, 3, 1, 2, 0, 3, NONE, NONE};
-        for (int i = 0; i < dues.length; i++) {
-            CHECK.due("place " + i, x.place(i), dues[i]);
-        }
-        for (int i : FAR) {
-            CHECK.due("place " + i, x.place(i), NONE);
-        }
+        row("place", x::place, 2, 1, 3, 1, 2, 0, 3);
         x.sign(1);
-        int[] anew = {3, 1, 4, 1, 2, 0, 4, 4, NONE};
-        for (int i = 0; i < anew.length; i++) {
-            CHECK.due("place " + i + " anew", x.place(i), anew[i]);
-        }
+        row("place anew", x::place, 3, 1, 4, 1, 2, 0, 4, 4);
     }
 
     private static void placeOfNoneAndFull() {
@@ -277,13 +268,9 @@ public final class BlockTest {
     private static void symbol() {
         CHECK.about("Promise 8: SYMBOL i; NONE below 0 and behind the END");
         Run x = Run.withSigns(200, 0, 255, 0, 200, 200, 17);
-        int[] dues = {3, 2, 4, 2, 3, 0, 4, 5, NONE, NONE};
-        for (int i = 0; i < dues.length; i++) {
-            CHECK.due("symbol " + i, x.symbol(i), dues[i]);
-        }
-        for (int i : FAR) {
-            CHECK.due("symbol " + i, x.symbol(i), NONE);
-        }
+        row("symbol", x::symbol, 3, 2, 4, 2, 3, 0, 4, 5);
+        x.sign(1);
+        row("symbol anew", x::symbol, 4, 2, 5, 2, 3, 0, 5, 5, 6);
     }
 
     private static void symbolOfNoneAndFull() {
