@@ -1,8 +1,11 @@
+import java.io.IOException;
 import java.lang.reflect.Constructor;
 import java.lang.reflect.Field;
 import java.lang.reflect.Member;
 import java.lang.reflect.Method;
 import java.lang.reflect.Modifier;
+import java.nio.file.Files;
+import java.nio.file.Path;
 import java.util.Set;
 import java.util.TreeSet;
 
@@ -14,7 +17,7 @@ public final class FaceTest {
         "int code(int,int)", "int cost()", "int write()", "int more(boolean)", "int cut(int)",
         "int flip(int)", "int bit(int)", "int read()", "int fault()");
 
-    public static void main(String[] args) {
+    public static void main(String[] args) throws IOException {
         Check check = new Check();
         Class<?> face = MoveFronts.class;
         check.about("The public face: the class");
@@ -40,6 +43,13 @@ public final class FaceTest {
         for (Class<?> inside : face.getDeclaredClasses()) {
             check.due("static: " + inside, Modifier.isStatic(inside.getModifiers()));
             check.due("not public: " + inside, !Modifier.isPublic(inside.getModifiers()));
+        }
+        check.about("Terms: ahead of the calls write to fault the interface says: ---- the tape");
+        String text = Files.readString(Path.of("src/main/java/MoveFronts.java"));
+        int line = text.indexOf("// ---- the tape");
+        check.due("behind cost", line > text.indexOf("public int cost()"));
+        for (String name : new String[] {"write", "more", "cut", "flip", "bit", "read", "fault"}) {
+            check.due("ahead of " + name, line < text.indexOf("public int " + name + "("));
         }
         check.end();
     }
