@@ -223,6 +223,10 @@ public final class MoveFronts {
         return symbols < 60 ? 2 : 3;
     }
 
+    private static boolean isLength(int length) {
+        return length >= 1 && length <= LONGEST;
+    }
+
     /** Numbers from 0 on in a row of limited room; no index can leave it. */
     private static final class Row {
         private final int[] values;
@@ -271,7 +275,7 @@ public final class MoveFronts {
         void copyFrom(Row other) {
             clear();
             for (int i = 0; i < other.count; i++) {
-                add(other.values[i]);
+                add(other.get(i));
             }
         }
     }
@@ -634,7 +638,10 @@ public final class MoveFronts {
             }
             for (int kind = 0; kind < kinds; kind++) {
                 int weight = weights[kind];
-                sorted[starts[weight]] = kind;
+                int slot = starts[weight];
+                if (slot >= 0 && slot < kinds) {
+                    sorted[slot] = kind;
+                }
                 starts[weight]++;
             }
         }
@@ -646,6 +653,12 @@ public final class MoveFronts {
             for (int joins = 1; joins < kinds; joins++) {
                 int one = takeLightest();
                 int other = takeLightest();
+                join(one, other);
+            }
+        }
+
+        private void join(int one, int other) {
+            if (isNode(one) && isNode(other) && nodes < MOST_NODES) {
                 weights[nodes] = weights[one] + weights[other];
                 parents[one] = nodes;
                 parents[other] = nodes;
@@ -653,29 +666,33 @@ public final class MoveFronts {
             }
         }
 
-        /** Never called with fewer than one left: each join takes two and leaves one. */
+        private boolean isNode(int node) {
+            return node >= 0 && node < nodes;
+        }
+
+        /** NONE only if none is left, which no join meets: it takes two and leaves one. */
         private int takeLightest() {
-            boolean kindLeft = nextKind < kinds;
+            int kind = nextKind < kinds ? sorted[nextKind] : NONE;
             boolean joinedLeft = nextJoined < nodes;
-            if (kindLeft && (!joinedLeft || weights[sorted[nextKind]] <= weights[nextJoined])) {
+            if (isNode(kind) && (!joinedLeft || weights[kind] <= weights[nextJoined])) {
                 nextKind++;
-                return sorted[nextKind - 1];
+                return kind;
             }
             if (joinedLeft) {
                 nextJoined++;
                 return nextJoined - 1;
             }
-            return 0;
+            return NONE;
         }
 
         /** From the last one down, as what a node became part of has the greater number. */
         private void findDepths() {
-            if (nodes == 0) {
-                return;
-            }
-            depths[nodes - 1] = 0;
-            for (int node = nodes - 2; node >= 0; node--) {
-                depths[node] = depths[parents[node]] + 1;
+            for (int node = nodes - 1; node >= 0; node--) {
+                depths[node] = 0;
+                int parent = parents[node];
+                if (parent > node && parent < nodes) {
+                    depths[node] = depths[parent] + 1;
+                }
             }
         }
     }
@@ -704,7 +721,7 @@ public final class MoveFronts {
         }
 
         void setLength(int kind, int length) {
-            if (kind >= 0 && kind < lengths.length && length >= 1 && length <= LONGEST) {
+            if (kind >= 0 && kind < lengths.length && isLength(length)) {
                 lengths[kind] = length;
             }
         }
@@ -724,8 +741,10 @@ public final class MoveFronts {
             }
             for (int kind = 0; kind < kinds; kind++) {
                 int length = lengths[kind];
-                codes[kind] = nexts[length];
-                nexts[length]++;
+                if (isLength(length)) {
+                    codes[kind] = nexts[length];
+                    nexts[length]++;
+                }
             }
             return true;
         }
@@ -737,8 +756,10 @@ public final class MoveFronts {
             }
             for (int kind = 0; kind < kinds; kind++) {
                 int length = lengths[kind];
-                counts[length]++;
-                filled += 1 << (LONGEST - length);
+                if (isLength(length)) {
+                    counts[length]++;
+                    filled += 1 << (LONGEST - length);
+                }
             }
         }
 
@@ -747,7 +768,7 @@ public final class MoveFronts {
         }
 
         int kindOf(int code, int length) {
-            if (length < 1 || length > LONGEST) {
+            if (!isLength(length)) {
                 return NONE;
             }
             int rank = code - firsts[length];
@@ -1055,7 +1076,7 @@ public final class MoveFronts {
             if (length == NONE) {
                 return false;
             }
-            if (length < 1 || length > LONGEST) {
+            if (!isLength(length)) {
                 return fail(WRONG_LENGTH);
             }
             for (int kind = 0; kind < kinds; kind++) {
@@ -1081,7 +1102,7 @@ public final class MoveFronts {
                     return NONE;
                 }
                 length += less == 1 ? -1 : 1;
-                if (length < 1 || length > LONGEST) {
+                if (!isLength(length)) {
                     fail(WRONG_LENGTH);
                     return NONE;
                 }
