@@ -12,7 +12,7 @@ import java.util.regex.Pattern;
 public final class ExampleTest {
     private static final Check CHECK = new Check();
     private static final Pattern BLOCK = Pattern.compile("```java\n(.*?)```", Pattern.DOTALL);
-    private static final Pattern CALL = Pattern.compile("x\\.(\\w+)\\((.*)\\); +// (-?\\w+).*");
+    private static final Pattern CALL = Pattern.compile("x\\.(\\w+)\\((.*)\\); +// (-?\\d+|NONE|OUTSIDE|STATE|ROOM)\\b.*");
     private static final Map<String, Integer> NAMES = Map.of("NONE", MoveFronts.NONE,
         "OUTSIDE", MoveFronts.OUTSIDE, "STATE", MoveFronts.STATE, "ROOM", MoveFronts.ROOM);
 
